@@ -164,7 +164,7 @@ public final class TwisterCourt {
         if (!canAct(what, which)) {
             return false;
         }
-        past.keep(t, court.lines.count);
+        past.keep(t, court.written.count);
         if (what <= 1) {
             court.twist(t, which, what, false);
         } else if (what == 2) {
@@ -184,7 +184,7 @@ public final class TwisterCourt {
         }
         int came = 0;
         for (int i = 0; i < n; i++) {
-            past.keep(t, court.lines.count);
+            past.keep(t, court.written.count);
             came += court.goDay(t, false);
         }
         return came;
@@ -287,19 +287,19 @@ public final class TwisterCourt {
     }
 
     public int book(int i, int what) {
-        Book lines = court.lines;
-        if (!isWithin(i, 0, lines.count - 1)) {
+        Lines written = court.written;
+        if (!isWithin(i, 0, written.count - 1)) {
             return NONE;
         }
         switch (what) {
             case 0:
-                return lines.day[i];
+                return written.day[i];
             case 1:
-                return lines.what[i];
+                return written.kind[i];
             case 2:
-                return lines.which[i];
+                return written.which[i];
             case 3:
-                return lines.much[i];
+                return written.much[i];
             default:
                 return NONE;
         }
@@ -348,7 +348,7 @@ public final class TwisterCourt {
     }
 
     public int jump(int v) {
-        return court.told.addJump(v);
+        return court.told.jumpRow.tell(v);
     }
 
     public int jumps(int what) {
@@ -403,7 +403,7 @@ public final class TwisterCourt {
     }
 
     public int turn(int v) {
-        return court.told.addTurn(v);
+        return court.told.turnRow.tell(v);
     }
 
     public int turning(int what) {
@@ -453,7 +453,7 @@ public final class TwisterCourt {
         if (!isWithin(place, 0, NINE - 1) || !isWithin(v, 0, MOST_OF_NINE)) {
             return false;
         }
-        court.told.nine[place] = v;
+        court.told.nines[place] = v;
         return true;
     }
 
@@ -466,9 +466,9 @@ public final class TwisterCourt {
 
     public int rule(int what, int v) {
         if (what == 0) {
-            return court.told.addStep(v);
+            return court.told.steps.tell(v);
         }
-        return what == 1 ? court.told.addBarred(v) : NONE;
+        return what == 1 ? court.told.barred.tell(v) : NONE;
     }
 
     public int game(int n, int what) {
@@ -514,7 +514,7 @@ public final class TwisterCourt {
             case 6:
                 return t.day;
             case 7:
-                return court.lines.count;
+                return court.written.count;
             case 8:
                 return t.draws;
             case 9:
@@ -710,43 +710,29 @@ public final class TwisterCourt {
         }
     }
 
-    /** THE BOOK. */
-    private static final class Book {
-        int count;
-        final int[] day = new int[MOST_BOOKED];
-        final int[] what = new int[MOST_BOOKED];
-        final int[] which = new int[MOST_BOOKED];
-        final int[] much = new int[MOST_BOOKED];
-
-        void write(int onDay, int itsWhat, int bargain, int howMuch) {
-            if (count < MOST_BOOKED) {
-                day[count] = onDay;
-                what[count] = itsWhat;
-                which[count] = bargain;
-                much[count] = howMuch;
-                count++;
-            }
-        }
-
-        void copyFrom(Book other) {
-            count = other.count;
-            System.arraycopy(other.day, 0, day, 0, MOST_BOOKED);
-            System.arraycopy(other.what, 0, what, 0, MOST_BOOKED);
-            System.arraycopy(other.which, 0, which, 0, MOST_BOOKED);
-            System.arraycopy(other.much, 0, much, 0, MOST_BOOKED);
-        }
-    }
-
-    /** The lines of TWISTS (day, bargain, kind: the side), TAVERN (all four) or HEARS (bargain, much: the PERSON). */
+    /**
+     * Lines with a DAY: of TWISTS (kind: the side, which: the BARGAIN), of TAVERN, of HEARS (which: the BARGAIN, much: the
+     * PERSON; no DAY) or of THE BOOK (kind: what).
+     */
     private static final class Lines {
         int count;
-        final int[] day = new int[MOST_LINES];
-        final int[] kind = new int[MOST_LINES];
-        final int[] which = new int[MOST_LINES];
-        final int[] much = new int[MOST_LINES];
+        private final int most;
+        final int[] day;
+        final int[] kind;
+        final int[] which;
+        final int[] much;
 
+        Lines(int most) {
+            this.most = Math.max(0, most);
+            day = new int[this.most];
+            kind = new int[this.most];
+            which = new int[this.most];
+            much = new int[this.most];
+        }
+
+        /** What would be too many is left out. */
         void append(int onDay, int itsKind, int itsWhich, int howMuch) {
-            if (count < MOST_LINES) {
+            if (count < most) {
                 day[count] = onDay;
                 kind[count] = itsKind;
                 which[count] = itsWhich;
@@ -756,11 +742,11 @@ public final class TwisterCourt {
         }
 
         void copyFrom(Lines other) {
-            count = other.count;
-            System.arraycopy(other.day, 0, day, 0, MOST_LINES);
-            System.arraycopy(other.kind, 0, kind, 0, MOST_LINES);
-            System.arraycopy(other.which, 0, which, 0, MOST_LINES);
-            System.arraycopy(other.much, 0, much, 0, MOST_LINES);
+            count = Math.min(most, other.count);
+            System.arraycopy(other.day, 0, day, 0, count);
+            System.arraycopy(other.kind, 0, kind, 0, count);
+            System.arraycopy(other.which, 0, which, 0, count);
+            System.arraycopy(other.much, 0, much, 0, count);
         }
     }
 
@@ -876,16 +862,16 @@ public final class TwisterCourt {
     /** All that is and was told, but for the TAPE and what can be undone: what THE IMAGE keeps. */
     private static final class Court {
         final Tavern tavern = new Tavern();
-        final Book lines = new Book();
+        final Lines written = new Lines(MOST_BOOKED);
         final Law law = new Law();
-        final Lines twists = new Lines();
-        final Lines evenings = new Lines();
-        final Lines hearings = new Lines();
+        final Lines twists = new Lines(MOST_LINES);
+        final Lines evenings = new Lines(MOST_LINES);
+        final Lines hearings = new Lines(MOST_LINES);
         final Told told = new Told();
 
         void copyFrom(Court other) {
             tavern.copyFrom(other.tavern);
-            lines.copyFrom(other.lines);
+            written.copyFrom(other.written);
             law.copyFrom(other.law);
             twists.copyFrom(other.twists);
             evenings.copyFrom(other.evenings);
@@ -1044,7 +1030,7 @@ public final class TwisterCourt {
 
         private void note(Tavern t, int what, int bargain, int much, boolean inThought) {
             if (!inThought) {
-                lines.write(t.day, what, bargain, much);
+                written.append(t.day, what, bargain, much);
             }
         }
     }
@@ -1081,7 +1067,7 @@ public final class TwisterCourt {
             next = next > 0 ? next - 1 : MOST_KEPT - 1;
             count--;
             court.tavern.copyFrom(taverns[next]);
-            court.lines.count = booked[next];
+            court.written.count = booked[next];
             return true;
         }
     }
@@ -1401,7 +1387,7 @@ public final class TwisterCourt {
 
     /** Reads TWISTS, TAVERN and HEARS from the TAPE; the lines that it holds are whole only if read() said so. */
     private static final class LinesReader {
-        final Lines lines = new Lines();
+        final Lines lines = new Lines(MOST_LINES);
         private int day;
         private int kind;
         private int which;
@@ -1502,6 +1488,51 @@ public final class TwisterCourt {
         }
     }
 
+    /** A row of numbers that are told one by one. */
+    private static final class Row {
+        int count;
+        final int[] values;
+        private final int least;
+        private final int greatest;
+        private final boolean isUnlike;
+
+        /** Where isUnlike, no number is told twice. */
+        Row(int most, int least, int greatest, boolean isUnlike) {
+            values = new int[Math.max(0, most)];
+            this.least = least;
+            this.greatest = greatest;
+            this.isUnlike = isUnlike;
+        }
+
+        /** How many there are then; NONE if it can't be; told NONE, there are none. */
+        int tell(int v) {
+            if (v == NONE) {
+                count = 0;
+                return 0;
+            }
+            if (!isWithin(v, least, greatest) || count >= values.length || isUnlike && has(v)) {
+                return NONE;
+            }
+            values[count] = v;
+            count++;
+            return count;
+        }
+
+        boolean has(int v) {
+            for (int i = 0; i < count; i++) {
+                if (values[i] == v) {
+                    return true;
+                }
+            }
+            return false;
+        }
+
+        void copyFrom(Row other) {
+            count = Math.min(values.length, other.count);
+            System.arraycopy(other.values, 0, values, 0, count);
+        }
+    }
+
     /** What is told for thought alone: JUMPS, TURNS, EVEN and GAME. */
     private static final class Told {
         /* The eight straight lines of a square of 3 by 3, by their places. */
@@ -1511,81 +1542,48 @@ public final class TwisterCourt {
         private static final int STRAIGHT_LINES = 8;
         private static final int NEVER = 99;
 
-        int jumpCount;
-        final int[] jump = new int[MOST_JUMPS];
-        int turnCount;
-        final int[] turn = new int[MOST_TURNS];
-        final int[] nine = new int[NINE];
-        int stepCount;
-        final int[] step = new int[MOST_STEPS];
-        int barredCount;
-        final int[] barred = new int[MOST_BARRED];
+        final Row jumpRow = new Row(MOST_JUMPS, 0, 9, false);
+        final Row turnRow = new Row(MOST_TURNS, 0, 2, false);
+        final Row steps = new Row(MOST_STEPS, 1, 9, true);
+        final Row barred = new Row(MOST_BARRED, 0, LAST_SQUARE, true);
+        final int[] nines = new int[NINE];
         /* Used again by each call. */
         private final int[] fewest = new int[MOST_JUMPS];
         private final int[] stood = new int[MOST_TURNS + 1];
         private final boolean[] wins = new boolean[LAST_SQUARE + 1];
 
         void copyFrom(Told other) {
-            jumpCount = other.jumpCount;
-            System.arraycopy(other.jump, 0, jump, 0, MOST_JUMPS);
-            turnCount = other.turnCount;
-            System.arraycopy(other.turn, 0, turn, 0, MOST_TURNS);
-            System.arraycopy(other.nine, 0, nine, 0, NINE);
-            stepCount = other.stepCount;
-            System.arraycopy(other.step, 0, step, 0, MOST_STEPS);
-            barredCount = other.barredCount;
-            System.arraycopy(other.barred, 0, barred, 0, MOST_BARRED);
-        }
-
-        int addJump(int v) {
-            if (v == NONE) {
-                jumpCount = 0;
-                return 0;
-            }
-            if (!isWithin(v, 0, NINE) || jumpCount >= MOST_JUMPS) {
-                return NONE;
-            }
-            jump[jumpCount] = v;
-            jumpCount++;
-            return jumpCount;
+            jumpRow.copyFrom(other.jumpRow);
+            turnRow.copyFrom(other.turnRow);
+            steps.copyFrom(other.steps);
+            barred.copyFrom(other.barred);
+            System.arraycopy(other.nines, 0, nines, 0, NINE);
         }
 
         int fewestJumps() {
-            if (jumpCount == 0) {
+            if (jumpRow.count <= 0) {
                 return NONE;
             }
             fewest[0] = 0;
-            for (int to = 1; to < jumpCount; to++) {
+            for (int to = 1; to < jumpRow.count; to++) {
                 fewest[to] = NEVER;
                 for (int from = 0; from < to; from++) {
-                    if (from + jump[from] >= to) {
+                    if (from + jumpRow.values[from] >= to) {
                         fewest[to] = Math.min(fewest[to], fewest[from] + 1);
                     }
                 }
             }
-            int few = fewest[jumpCount - 1];
+            int few = fewest[jumpRow.count - 1];
             return few < NEVER ? few : NONE;
         }
 
+        /** Without a row the last place is NONE by itself. */
         int furthestPlace() {
             int furthest = 0;
-            for (int from = 0; from < jumpCount && from <= furthest; from++) {
-                furthest = Math.max(furthest, from + jump[from]);
+            for (int from = 0; from < jumpRow.count && from <= furthest; from++) {
+                furthest = Math.max(furthest, from + jumpRow.values[from]);
             }
-            return Math.min(furthest, jumpCount - 1);
-        }
-
-        int addTurn(int v) {
-            if (v == NONE) {
-                turnCount = 0;
-                return 0;
-            }
-            if (!isWithin(v, 0, 2) || turnCount >= MOST_TURNS) {
-                return NONE;
-            }
-            turn[turnCount] = v;
-            turnCount++;
-            return turnCount;
+            return Math.min(furthest, jumpRow.count - 1);
         }
 
         /** What 0 x, 1 y, 2 how many squares, 3 twice the field. */
@@ -1596,14 +1594,15 @@ public final class TwisterCourt {
             int dy = 0;
             int field = 0;
             int squares = stand(0, x, y);
-            for (int i = 0; i < turnCount; i++) {
-                if (turn[i] == 0) {
+            for (int i = 0; i < turnRow.count; i++) {
+                int told = turnRow.values[i];
+                if (told == 0) {
                     field += x * (y + dy) - (x + dx) * y;
                     x += dx;
                     y += dy;
                     squares = stand(squares, x, y);
                 } else {
-                    int left = turn[i] == 1 ? 1 : -1;
+                    int left = told == 1 ? 1 : -1;
                     int was = dx;
                     dx = -left * dy;
                     dy = left * was;
@@ -1638,7 +1637,7 @@ public final class TwisterCourt {
 
         private int sumOf(int line) {
             int at = 3 * line;
-            return nine[STRAIGHT[at]] + nine[STRAIGHT[at + 1]] + nine[STRAIGHT[at + 2]];
+            return nines[STRAIGHT[at]] + nines[STRAIGHT[at + 1]] + nines[STRAIGHT[at + 2]];
         }
 
         int linesOfSum(int s) {
@@ -1654,65 +1653,21 @@ public final class TwisterCourt {
         int waysToEven() {
             int ways = 0;
             for (int place = 0; place < NINE; place++) {
-                int was = nine[place];
+                int was = nines[place];
                 for (int v = 0; v <= MOST_OF_NINE; v++) {
-                    nine[place] = v;
+                    nines[place] = v;
                     if (v != was && linesOfSum(sumOf(0)) == STRAIGHT_LINES) {
                         ways++;
                     }
                 }
-                nine[place] = was;
+                nines[place] = was;
             }
             return ways;
         }
 
-        int addStep(int v) {
-            if (v == NONE) {
-                stepCount = 0;
-                return 0;
-            }
-            if (!isWithin(v, 1, 9) || stepCount >= MOST_STEPS || isStep(v)) {
-                return NONE;
-            }
-            step[stepCount] = v;
-            stepCount++;
-            return stepCount;
-        }
-
-        int addBarred(int v) {
-            if (v == NONE) {
-                barredCount = 0;
-                return 0;
-            }
-            if (!isWithin(v, 0, LAST_SQUARE) || barredCount >= MOST_BARRED || isBarred(v)) {
-                return NONE;
-            }
-            barred[barredCount] = v;
-            barredCount++;
-            return barredCount;
-        }
-
-        private boolean isStep(int v) {
-            for (int i = 0; i < stepCount; i++) {
-                if (step[i] == v) {
-                    return true;
-                }
-            }
-            return false;
-        }
-
-        private boolean isBarred(int square) {
-            for (int i = 0; i < barredCount; i++) {
-                if (barred[i] == square) {
-                    return true;
-                }
-            }
-            return false;
-        }
-
         int winningStep(int n) {
             workWins(n);
-            return isBarred(n) ? NONE : leastStep(n);
+            return barred.has(n) ? NONE : leastStep(n);
         }
 
         int winningSquares(int n) {
@@ -1728,17 +1683,18 @@ public final class TwisterCourt {
 
         private void workWins(int n) {
             for (int square = 0; square <= n && square <= LAST_SQUARE; square++) {
-                wins[square] = !isBarred(square) && leastStep(square) != NONE;
+                wins[square] = !barred.has(square) && leastStep(square) != NONE;
             }
         }
 
         /** The least step to a square from which the other loses; what is won below is known already. */
         private int leastStep(int from) {
             int least = NONE;
-            for (int i = 0; i < stepCount; i++) {
-                int to = from - step[i];
-                if (to >= 0 && to <= LAST_SQUARE && !isBarred(to) && !wins[to] && (least == NONE || step[i] < least)) {
-                    least = step[i];
+            for (int i = 0; i < steps.count; i++) {
+                int by = steps.values[i];
+                int to = from - by;
+                if (to >= 0 && to <= LAST_SQUARE && !barred.has(to) && !wins[to] && (least == NONE || by < least)) {
+                    least = by;
                 }
             }
             return least;
