@@ -1747,7 +1747,7 @@ public final class TwisterCourt {
             int those = 0;
             for (int a = 1; a < n; a++) {
                 int c = a + 1;
-                for (int b = a + 1; b < n; b++) {
+                for (int b = a + 1; b < n && c <= n; b++) {
                     int square = a * a + b * b;
                     while (c <= n && c * c < square) {
                         c++;

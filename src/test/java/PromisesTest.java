@@ -422,6 +422,13 @@ public final class PromisesTest {
         bad(x, 0, "rolls 1  ", 1, 9);
         bad(x, 0, "Rolls 1;", 1, 0);
         bad(x, 0, "rollsblurs 1;", 1, 0);
+        for (char c : "azAZ".toCharArray()) {
+            bad(x, 0, "rolls" + c + " 1;", 1, 0);
+        }
+        for (char c : "`{@[/:".toCharArray()) {
+            bad(x, 0, "rolls" + c + " 1;", 1, 5);
+        }
+        bad(x, 0, "rolls 9/9:", 1, 9);
         bad(x, 0, "rolls 1;;", 1, 8);
         bad(x, 0, "rolls -1;", 1, 6);
         bad(x, 0, "rolls (1);", 1, 6);
@@ -926,6 +933,7 @@ public final class PromisesTest {
         turns(x, "0202020", 0, 0, 4, -2);
         turns(x, "0110", 0, 0, 2, 0);
         turns(x, "00100100100", 0, 0, 8, 8);
+        turns(x, "0000000000000000", 16, 0, 17, -1000);
         // an eight: one round by the left, one by the right
         turns(x, "0101010202020202", 0, 0, 6, 0);
         due("sixteen", x.turn(0), NONE);
@@ -1051,6 +1059,10 @@ public final class PromisesTest {
             x.nine(i, 30);
         }
         due("90", x.even(90), 8);
+        x.nine(5, 0);
+        due("one way to 30", x.even(NONE), 1);
+        due("two lines less", x.even(90), 6);
+        x.nine(5, 30);
         due("0", x.even(0), 0);
         due("91", x.even(91), NONE);
         due("-2", x.even(-2), NONE);
@@ -1074,6 +1086,7 @@ public final class PromisesTest {
         due("200 loses", x.game(200, 0), NONE);
         due("199", x.game(199, 0), 3);
         due("of 0 .. 200", x.game(200, 1), 150);
+        due("of 0", x.game(0, 1), 0);
         // 0 barred: 1 loses now, so 2, 3, 4 win and 5 loses
         due("bar 0", x.rule(1, 0), 1);
         due("bar 0 again", x.rule(1, 0), NONE);
@@ -1103,6 +1116,14 @@ public final class PromisesTest {
         // the least step of those that win, in whatever order they were told
         x.rule(0, 5);
         due("5", x.game(5, 0), 5);
+        due("5 .. 9 of each ten", x.game(200, 1), 100);
+        due("199 is the last of them", x.game(199, 1), 100);
+        due("198 is not", x.game(198, 1), 99);
+        x.rule(1, 0);
+        due("0 barred: from 200 to 195, which loses", x.game(200, 0), 5);
+        due("200, too", x.game(200, 1), 100);
+        due("but for 200", x.game(199, 1), 99);
+        x.rule(1, NONE);
         x.rule(0, 4);
         due("8: by 5 to 3", x.game(8, 0), 5);
         due("5: by 4 and by 5", x.game(5, 0), 4);
