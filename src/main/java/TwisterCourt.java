@@ -66,7 +66,7 @@ public final class TwisterCourt {
     private static final int JOIN_AND = 'a';
     private static final int JOIN_OR = 'o';
     private static final int JOIN_NOT = 'n';
-    /* Eight that are open leave two values each, the innermost test five more. */
+    /* Eight that are open leave two values each, the innermost B six more. */
     private static final int MOST_STACKED = 32;
 
     /* The kinds of TOKENS. */
