@@ -460,7 +460,10 @@ public final class ModelTest {
             }
         }
 
-        /** All that can be asked without a trace; it does not count as calls, which are few. */
+        /**
+         * All that can be asked without a trace. It does not count as calls: what an object answers beyond 512 is free, but
+         * this class has no such end, and a run must come to what takes many calls.
+         */
         void all() {
             int before = calls;
             for (int what = 0; what <= 13; what++) {

@@ -1,23 +1,5 @@
 /** Each promise of the document with answers worked out by hand: ordinary inputs, edges, wrong inputs. */
-public final class PromisesTest {
-    private static final int NONE = TwisterCourt.NONE;
-    private static final int MIN = Integer.MIN_VALUE;
-    private static final int MAX = Integer.MAX_VALUE;
-
-    private static int wrong = 0;
-    private static String promise = "";
-
-    private static void due(String what, long got, long want) {
-        if (got != want) {
-            wrong++;
-            System.out.println(promise + ": " + what + " answered " + got + ", due is " + want);
-        }
-    }
-
-    private static void due(String what, boolean got, boolean want) {
-        due(what, got ? 1 : 0, want ? 1 : 0);
-    }
-
+public final class PromisesTest extends Checks {
     public static void main(String[] args) {
         aNewObject();
         state();
@@ -59,70 +41,13 @@ public final class PromisesTest {
         undoForgets();
         image();
         look();
-        System.out.println(wrong == 0 ? "all promises hold" : wrong + " answers are not as due");
-        if (wrong != 0) {
-            System.exit(1);
-        }
-    }
-
-    // ------------------------------------------------------------------------------------------------ helpers
-
-    private static void tape(TwisterCourt x, String s) {
-        x.end(0);
-        int[] n = new int[5];
-        for (int from = 0; from < s.length(); from += 20) {
-            for (int i = 0; i < 20; i++) {
-                int c = from + i < s.length() ? s.charAt(from + i) & 255 : ' ';
-                n[i / 4] = n[i / 4] << 8 | c;
-            }
-            x.feed(n[0], n[1], n[2], n[3], n[4]);
-        }
-        x.end(s.length());
-    }
-
-    private static int tell(TwisterCourt x, int k, String s) {
-        tape(x, s);
-        return x.text(k);
-    }
-
-    private static void good(TwisterCourt x, int k, String s, int lines) {
-        due("text " + k + " '" + s + "'", tell(x, k, s), lines);
-        due("fault of '" + s + "'", x.fault(0), 0);
-        due("place of '" + s + "'", x.fault(1), NONE);
-    }
-
-    private static void bad(TwisterCourt x, int k, String s, int fault, int place) {
-        due("text " + k + " '" + s + "'", tell(x, k, s), NONE);
-        due("fault of '" + s + "'", x.fault(0), fault);
-        due("place of '" + s + "'", x.fault(1), place);
-    }
-
-    /** Persons 0, 1, 2 with LIPS 4, 9, 0; BARGAIN 0 of 0 and 1 with two PHRASES, 1 of 1 and 2 with three. */
-    private static TwisterCourt three() {
-        TwisterCourt x = new TwisterCourt();
-        x.person(4);
-        x.person(9);
-        x.person(0);
-        x.bargain(0, 1, 2);
-        x.bargain(1, 2, 3);
-        return x;
-    }
-
-    /** As three(), and every PHRASE rolls off. */
-    private static TwisterCourt fluent() {
-        TwisterCourt x = three();
-        tell(x, 0, "rolls 1000;");
-        return x;
-    }
-
-    private static int drawn(int state) {
-        return state * 1664525 + 1013904223;
+        finish("all promises hold");
     }
 
     // ------------------------------------------------------------------------------------------------ promises
 
     private static void aNewObject() {
-        promise = "1 a new object";
+        sentence("1 a new object");
         TwisterCourt x = new TwisterCourt();
         for (int what = 0; what <= 13; what++) {
             due("look(" + what + ")", x.look(what), 0);
@@ -140,7 +65,7 @@ public final class PromisesTest {
     }
 
     private static void state() {
-        promise = "2 state";
+        sentence("2 state");
         TwisterCourt x = fluent();
         due("state(5)", x.state(5), 0);
         due("look(8)", x.look(8), 5);
@@ -151,7 +76,7 @@ public final class PromisesTest {
     }
 
     private static void person() {
-        promise = "3 person";
+        sentence("3 person");
         TwisterCourt x = new TwisterCourt();
         due("person(-1)", x.person(-1), NONE);
         due("person(10)", x.person(10), NONE);
@@ -167,7 +92,7 @@ public final class PromisesTest {
     }
 
     private static void bargain() {
-        promise = "4 bargain";
+        sentence("4 bargain");
         TwisterCourt x = new TwisterCourt();
         x.person(1);
         due("of one who is not", x.bargain(0, 1, 1), NONE);
@@ -190,7 +115,7 @@ public final class PromisesTest {
     }
 
     private static void set() {
-        promise = "5 set";
+        sentence("5 set");
         TwisterCourt x = fluent();
         due("lips", x.set(0, 2, 7), true);
         due("of(2, 0)", x.of(2, 0), 7);
@@ -219,7 +144,7 @@ public final class PromisesTest {
     }
 
     private static void actTwist() {
-        promise = "6 act, twist";
+        sentence("6 act, twist");
         TwisterCourt x = fluent();
         due("second first", x.act(1, 0), true);
         due("spoken by the second", x.deal(0, 5), 1);
@@ -258,7 +183,7 @@ public final class PromisesTest {
     }
 
     private static void actOther() {
-        promise = "6 act, the rest";
+        sentence("6 act, the rest");
         TwisterCourt x = fluent();
         due("clear of a clear one", x.act(2, 0), false);
         x.set(1, 0, 8);
@@ -296,7 +221,7 @@ public final class PromisesTest {
     }
 
     private static void days() {
-        promise = "7 days";
+        sentence("7 days");
         TwisterCourt x = fluent();
         tell(x, 0, "rolls 1000;blurs 4;");
         tell(x, 1, "on 0 bargain 0 first;on 0 bargain 0 second;on 0 bargain 0 first;on 1 bargain 1 second;on 3 bargain 1 first;"
@@ -333,7 +258,7 @@ public final class PromisesTest {
     }
 
     private static void daysEdges() {
-        promise = "7 days, edges";
+        sentence("7 days, edges");
         TwisterCourt x = new TwisterCourt();
         due("days(0)", x.days(0), NONE);
         due("days(61)", x.days(61), NONE);
@@ -355,7 +280,7 @@ public final class PromisesTest {
     }
 
     private static void feedAndEnd() {
-        promise = "8 feed, 9 end";
+        sentence("8 feed, 9 end");
         TwisterCourt x = three();
         for (int i = 1; i <= 20; i++) {
             due("feed", x.feed(i, i, i, i, i), 20 * i);
@@ -383,7 +308,7 @@ public final class PromisesTest {
     }
 
     private static void text() {
-        promise = "10 text, 11 fault";
+        sentence("10 text, 11 fault");
         TwisterCourt x = three();
         good(x, 0, "", 0);
         good(x, 1, "  \n ", 0);
@@ -416,7 +341,7 @@ public final class PromisesTest {
     }
 
     private static void faultsOfLaw() {
-        promise = "10 text, faults of the law";
+        sentence("10 text, faults of the law");
         TwisterCourt x = three();
         bad(x, 0, "rolls 1", 1, 7);
         bad(x, 0, "rolls 1  ", 1, 9);
@@ -468,7 +393,7 @@ public final class PromisesTest {
     }
 
     private static void faultsOfLines() {
-        promise = "10 text, faults of lines";
+        sentence("10 text, faults of lines");
         TwisterCourt x = three();
         bad(x, 1, "on", 1, 2);
         bad(x, 1, "on lips", 1, 3);
@@ -505,7 +430,7 @@ public final class PromisesTest {
     }
 
     private static void faultsByPlace() {
-        promise = "10 text, the first fault";
+        sentence("10 text, the first fault");
         TwisterCourt x = three();
         bad(x, 0, "costs 1/0;sing", 2, 8);
         bad(x, 0, "costs 1 1/0;", 1, 8);
@@ -515,7 +440,7 @@ public final class PromisesTest {
     }
 
     private static void seventeenLines() {
-        promise = "10 text, the 17th line";
+        sentence("10 text, the 17th line");
         TwisterCourt x = three();
         good(x, 0, "blurs 1;".repeat(16), 16);
         bad(x, 0, "blurs 1;".repeat(17), 3, 128);
@@ -533,7 +458,7 @@ public final class PromisesTest {
     }
 
     private static void of() {
-        promise = "12 of";
+        sentence("12 of");
         TwisterCourt x = fluent();
         x.person(3);
         x.bargain(2, 0, 1);
@@ -556,7 +481,7 @@ public final class PromisesTest {
     }
 
     private static void deal() {
-        promise = "13 deal";
+        sentence("13 deal");
         TwisterCourt x = three();
         int[] due = {1, 2, 3, 9, 0, 0, 0, 0, 0, NONE, NONE, 1000, 1000, 1000, NONE};
         for (int what = 0; what < due.length; what++) {
@@ -591,7 +516,7 @@ public final class PromisesTest {
     }
 
     private static void lawByWord() {
-        promise = "13 deal, what the law tells";
+        sentence("13 deal, what the law tells");
         TwisterCourt x = three();
         tell(x, 3, "bargain 0 by 2;");
         tell(x, 0, "costs lips;rolls lips*100+phrase*10+phrases;blurs 7+lips+owes+held+phrase when phrases=2;blurs clear;");
@@ -633,7 +558,7 @@ public final class PromisesTest {
     }
 
     private static void lawArithmetic() {
-        promise = "13 deal, how the law counts";
+        sentence("13 deal, how the law counts");
         TwisterCourt x = three();
         rolls(x, "1+2*3", 7);
         rolls(x, "20-3-4", 13);
@@ -668,7 +593,7 @@ public final class PromisesTest {
     }
 
     private static void book() {
-        promise = "14 book";
+        sentence("14 book");
         TwisterCourt x = fluent();
         x.days(3);
         x.act(1, 1);
@@ -710,7 +635,7 @@ public final class PromisesTest {
     }
 
     private static void goes() {
-        promise = "15 goes";
+        sentence("15 goes");
         TwisterCourt x = three();
         tell(x, 0, "rolls 500 when phrases=2;rolls 499;blurs 2 when phrases=2;blurs 5 when day<2;costs 4;");
         tell(x, 1, "on 0 bargain 0 first;on 1 bargain 0 second;on 0 bargain 1 first;on 1 bargain 1 second;");
@@ -739,7 +664,7 @@ public final class PromisesTest {
     }
 
     private static void holds() {
-        promise = "16 holds";
+        sentence("16 holds");
         TwisterCourt x = fluent();
         tell(x, 1, "on 2 bargain 0 first;on 5 bargain 0 second;on 59 bargain 1 first;on 59 bargain 1 second;");
         due("behind 6 days", x.holds(0), 6);
@@ -760,7 +685,7 @@ public final class PromisesTest {
     }
 
     private static void deals() {
-        promise = "17 deals";
+        sentence("17 deals");
         TwisterCourt x = fluent();
         x.bargain(1, 0, 1);
         x.bargain(0, 1, 1);
@@ -780,7 +705,7 @@ public final class PromisesTest {
     }
 
     private static void jumps() {
-        promise = "18 jump, 19 jumps";
+        sentence("18 jump, 19 jumps");
         TwisterCourt x = new TwisterCourt();
         due("jump(-2)", x.jump(-2), NONE);
         due("jump(10)", x.jump(10), NONE);
@@ -818,7 +743,7 @@ public final class PromisesTest {
     }
 
     private static void walks() {
-        promise = "20 walks";
+        sentence("20 walks");
         TwisterCourt x = new TwisterCourt();
         int[] all = {1, 4, 12, 36, 100, 284, 780, 2172, 5916};
         for (int n = 0; n <= 8; n++) {
@@ -841,7 +766,7 @@ public final class PromisesTest {
     }
 
     private static void apart() {
-        promise = "21 apart";
+        sentence("21 apart");
         TwisterCourt x = new TwisterCourt();
         int[][] due = {{2, 3, 2}, {3, 2, 1}, {5, 9, 4}, {13, 649, 180}, {29, 9801, 1820}, {46, 24335, 3588}, {50, 99, 14}};
         for (int[] d : due) {
@@ -859,7 +784,7 @@ public final class PromisesTest {
     }
 
     private static void corners() {
-        promise = "22 corners";
+        sentence("22 corners");
         TwisterCourt x = new TwisterCourt();
         due("4", x.corners(4, 0), 0);
         due("5", x.corners(5, 0), 1);
@@ -879,7 +804,7 @@ public final class PromisesTest {
     }
 
     private static void parts() {
-        promise = "23 parts";
+        sentence("23 parts");
         TwisterCourt x = new TwisterCourt();
         int[][] due = {{1, 1, 0}, {2, 2, 0}, {7, 2, 0}, {6, 1, 6}, {25, 2, 6}, {28, 1, 28}, {12, 7, 0}, {220, 2, 220},
             {284, 2, 284}, {562, 3, 284}, {276, 11, 10164}, {997, 2, 0}};
@@ -894,7 +819,7 @@ public final class PromisesTest {
     }
 
     private static void lasts() {
-        promise = "24 lasts";
+        sentence("24 lasts");
         TwisterCourt x = new TwisterCourt();
         int[][] due = {{0, 0, 0, 0, 0}, {9, 0, 9, 0, 9}, {10, 1, 1, 1, 0}, {39, 2, 3, 3, 4}, {77, 2, 5, 4, 8},
             {679, 2, 4, 5, 6}, {6788, 3, 2, 6, 0}, {68889, 3, 3, 7, 0}, {999999, 2, 9, 3, 0}, {199, 3, 1, 2, 8}};
@@ -921,7 +846,7 @@ public final class PromisesTest {
     }
 
     private static void turning() {
-        promise = "25 turn, 26 turning";
+        sentence("25 turn, 26 turning");
         TwisterCourt x = new TwisterCourt();
         due("turn(3)", x.turn(3), NONE);
         due("turn(-2)", x.turn(-2), NONE);
@@ -944,7 +869,7 @@ public final class PromisesTest {
     }
 
     private static void ant() {
-        promise = "27 ant";
+        sentence("27 ant");
         TwisterCourt x = new TwisterCourt();
         int[][] due = {{0, 27, 0}, {1, 28, 1}, {2, 36, 2}, {3, 35, 3}, {4, 27, 4}, {5, 26, 3}};
         for (int[] d : due) {
@@ -953,6 +878,7 @@ public final class PromisesTest {
         }
         // each step makes one black or one white
         for (int n = 0; n < 300; n++) {
+            x = n % 100 == 0 ? new TwisterCourt() : x;
             due("one more or less", Math.abs(x.ant(n + 1, 1) - x.ant(n, 1)), 1);
             int from = x.ant(n, 0);
             int to = x.ant(n + 1, 0);
@@ -967,7 +893,7 @@ public final class PromisesTest {
     }
 
     private static void row() {
-        promise = "28 row";
+        sentence("28 row");
         TwisterCourt x = new TwisterCourt();
         due("no times", x.row(12345, 30, 0), 12345);
         due("rule 204 keeps", x.row(12345, 30 * 256 + 204, 0), 12345);
@@ -992,7 +918,7 @@ public final class PromisesTest {
     }
 
     private static void own() {
-        promise = "29 own";
+        sentence("29 own");
         TwisterCourt x = new TwisterCourt();
         int[][] due = {{6174, 0, 6174}, {3524, 3, 8352}, {1467, 1, 6174}, {9831, 7, 9831}, {1, 5, 8991}, {5555, NONE, 5555},
             {9999, NONE, 9999}, {0, NONE, 0}, {2111, 5, 8991}};
@@ -1007,7 +933,7 @@ public final class PromisesTest {
     }
 
     private static void round() {
-        promise = "30 round";
+        sentence("30 round");
         TwisterCourt x = new TwisterCourt();
         // taps 1 turn the bits round
         due("1 of 4 bits", x.round(4, 1, 1, 1), 8);
@@ -1033,7 +959,7 @@ public final class PromisesTest {
     }
 
     private static void even() {
-        promise = "31 nine, 32 even";
+        sentence("31 nine, 32 even");
         TwisterCourt x = new TwisterCourt();
         int[] square = {2, 7, 6, 9, 5, 1, 4, 3, 8};
         for (int i = 0; i < 9; i++) {
@@ -1069,7 +995,7 @@ public final class PromisesTest {
     }
 
     private static void game() {
-        promise = "33 rule, 34 game";
+        sentence("33 rule, 34 game");
         TwisterCourt x = new TwisterCourt();
         due("no steps", x.game(5, 0), NONE);
         due("no steps", x.game(5, 1), 0);
@@ -1134,7 +1060,7 @@ public final class PromisesTest {
     }
 
     private static void undo() {
-        promise = "35 undo";
+        sentence("35 undo");
         TwisterCourt x = fluent();
         tell(x, 2, "on 0 ale 5;on 0 noise 6;on 0 lips 0 1;");
         x.state(123);
@@ -1190,7 +1116,7 @@ public final class PromisesTest {
     }
 
     private static void undoForgets() {
-        promise = "35 undo, what forgets";
+        sentence("35 undo, what forgets");
         TwisterCourt x = fluent();
         x.days(1);
         tell(x, 0, "costs 1;");
@@ -1241,7 +1167,7 @@ public final class PromisesTest {
     }
 
     private static void image() {
-        promise = "36 image";
+        sentence("36 image");
         TwisterCourt x = fluent();
         due("none", x.image(false), false);
         tell(x, 1, "on 3 bargain 0 first;");
@@ -1307,7 +1233,7 @@ public final class PromisesTest {
     }
 
     private static void look() {
-        promise = "37 look";
+        sentence("37 look");
         TwisterCourt x = fluent();
         x.set(2, 0, 1);
         x.set(3, 0, 2);
