@@ -375,6 +375,10 @@ public final class EdgesOfPromisesTest extends Checks {
         due("what 50", x.deal(8, 50), NONE);
         due("what 51", x.deal(8, 51), NONE);
         due("what 59", x.deal(8, 59), NONE);
+        TwisterCourt by = three();
+        tell(by, 0, "rolls lips;costs lips-1;");
+        due("rolls of the first, of the second", 10 * by.deal(0, 11) + by.deal(0, 22), 49);
+        due("costs of the first, of the second", 10 * by.deal(0, 31) + by.deal(0, 42), 38);
         sentence("13 deal: whatever it IS");
         TwisterCourt y = fluent();
         y.act(0, 0);
@@ -528,6 +532,8 @@ public final class EdgesOfPromisesTest extends Checks {
         edges("x of d", 2, 3, 50, 99, NONE, d -> x.apart(d, 0));
         edges("y of d", 2, 2, 50, 14, NONE, d -> x.apart(d, 1));
         due("d 0", x.apart(0, 0), NONE);
+        due("the greatest x", x.apart(46, 0), 24335);
+        due("the greatest y", x.apart(46, 1), 3588);
         sentence("21 apart: or another what");
         edges("what", 0, 3, 1, 2, NONE, what -> x.apart(2, what));
         sentence("21 apart: NONE: d is a square");
@@ -748,6 +754,15 @@ public final class EdgesOfPromisesTest extends Checks {
         }
     }
 
+    private static int ways(String numbers) {
+        TwisterCourt x = new TwisterCourt();
+        String[] n = numbers.split(",");
+        for (int place = 0; place <= 8; place++) {
+            x.nine(place, Integer.parseInt(n[place]));
+        }
+        return x.even(NONE);
+    }
+
     private static void even() {
         sentence("32 even: NONE if s can't be");
         TwisterCourt x = new TwisterCourt();
@@ -774,6 +789,10 @@ public final class EdgesOfPromisesTest extends Checks {
         due("back to 0", y.even(NONE), 1);
         y.nine(4, 0);
         due("it is 0", y.even(NONE), 0);
+        due("one that must be 0", ways("8,1,10,8,6,4,2,12,4"), 1);
+        due("one that must be -1", ways("7,0,9,7,5,3,1,11,3"), 0);
+        due("one that must be 30", ways("26,18,28,26,24,22,20,29,22"), 1);
+        due("one that must be 31", ways("27,19,29,27,25,23,21,30,23"), 0);
     }
 
     private static void rule() {
@@ -825,6 +844,13 @@ public final class EdgesOfPromisesTest extends Checks {
         x.rule(0, 9);
         // by nines: 9 .. 17 win, 18 .. 26 lose, and so on: 200 is the fifth of its nine, the second of its eighteen
         edges("from how many of 0 .. n", 0, 0, 200, 99, NONE, n -> x.game(n, 1));
+        // by eights 200 is the first of those that win, 192 .. 199 lose
+        x.rule(0, NONE);
+        x.rule(0, 8);
+        due("of 0 .. 199", x.game(199, 1), 96);
+        due("of 0 .. 200", x.game(200, 1), 97);
+        due("199", x.game(199, 0), NONE);
+        due("200", x.game(200, 0), 8);
         x.rule(0, NONE);
         x.rule(0, 1);
         edges("by which step from n", 0, NONE, 200, NONE, NONE, n -> x.game(n, 0));

@@ -41,6 +41,7 @@ public final class EdgesOfTermsTest extends Checks {
         bookLines();
         thoughtRolls();
         thoughtDays();
+        thoughtPersons();
         holdsWithinSixty();
         sixAreKept();
         undoOfEach();
@@ -346,6 +347,9 @@ public final class EdgesOfTermsTest extends Checks {
         good(x, 1, "on 0bargain 0first;", 1);
         bad(x, 1, "ON 0 bargain 0 first;", 1, 0);
         bad(x, 1, "o n 0 bargain 0 first;", 1, 0);
+        bad(x, 1, "an 0 bargain 0 first;", 1, 0);
+        bad(x, 1, "oN 0 bargain 0 first;", 1, 0);
+        bad(x, 0, "tolls 1;", 1, 0);
         bad(x, 1, "on 0 bargai 0 first;", 1, 5);
         bad(x, 1, "on 0 bargains 0 first;", 1, 5);
         sentence("2: KEYWORDS, those told here for that text");
@@ -583,11 +587,19 @@ public final class EdgesOfTermsTest extends Checks {
         sentence("2: not, and, or");
         rolls("1 when not 1=1", 900);
         rolls("1 when not 1=2", 1);
-        for (int both = 0; both <= 3; both++) {
-            String a = both % 2 == 1 ? "1=1" : "1=2";
-            String b = both / 2 == 1 ? "2=2" : "2=1";
-            rolls("1 when " + a + " and " + b, both == 3 ? 1 : 900);
-            rolls("1 when " + a + " or " + b, both > 0 ? 1 : 900);
+        rolls("1 when not 2=2", 900);
+        rolls("1 when not 3<3", 1);
+        String[] so = {"2=2", "1<2", "2>1", "not 1=2"};
+        String[] notSo = {"2=1", "2<2", "2>2", "not 2=2"};
+        for (int i = 0; i < 16; i++) {
+            rolls("1 when " + so[i / 4] + " and " + so[i % 4], 1);
+            rolls("1 when " + so[i / 4] + " and " + notSo[i % 4], 900);
+            rolls("1 when " + notSo[i / 4] + " and " + so[i % 4], 900);
+            rolls("1 when " + notSo[i / 4] + " and " + notSo[i % 4], 900);
+            rolls("1 when " + so[i / 4] + " or " + so[i % 4], 1);
+            rolls("1 when " + so[i / 4] + " or " + notSo[i % 4], 1);
+            rolls("1 when " + notSo[i / 4] + " or " + so[i % 4], 1);
+            rolls("1 when " + notSo[i / 4] + " or " + notSo[i % 4], 900);
         }
         rolls("1 when 1=1 or 1=1 and 1=2", 1);
         rolls("1 when (1=1 or 1=1) and 1=2", 900);
@@ -809,6 +821,13 @@ public final class EdgesOfTermsTest extends Checks {
         z.days(1);
         due("on 1", z.look(3), 3);
         due("told of 1", z.book(0, 0), 1);
+        sentence("3 (c): blurs has nobody and no PHRASE");
+        TwisterCourt v = three();
+        tell(v, 0, "rolls 0;costs 5;");
+        v.act(0, 0);
+        tell(v, 0, "blurs 4 when phrase=0 and lips=0 and owes=0;blurs 9;");
+        v.days(1);
+        due("clear 5", 10 * v.deal(0, 3) + v.deal(1, 3), 55);
         sentence("3 (c): clear as it is now, BARGAIN by BARGAIN");
         TwisterCourt w = three();
         tell(w, 0, "blurs clear-1;");
@@ -955,6 +974,27 @@ public final class EdgesOfTermsTest extends Checks {
         due("clear", y.goes(1, 3), 9);
     }
 
+    private static void thoughtPersons() {
+        sentence("4: GOES, by LIPS, OWES and HELD of who says it");
+        TwisterCourt x = three();
+        tell(x, 1, "on 0 bargain 0 first;on 0 bargain 0 second;on 0 bargain 1 second;on 0 bargain 1 first;");
+        tell(x, 0, "rolls 500 when lips=4 or lips=9;rolls 0;costs lips+2;");
+        due("0 and 1 say it", x.goes(1, 0), 1);
+        due("2 slips", x.goes(1, 1), 2);
+        tell(x, 0, "rolls 500 when lips=9;rolls 0;costs 1;");
+        due("0 and 2 slip, 1 says both", x.goes(1, 1), 2);
+        tell(x, 0, "rolls 500 when held=0;rolls 0;costs 7;");
+        due("0 and 1 say it, then 2, then 1 has held", x.goes(1, 1), 7);
+        tell(x, 0, "rolls 0;costs owes+1;");
+        due("1 and 1 and 1, and 1 owes already", x.goes(1, 1), 5);
+        sentence("4: GOES, by what TAVERN tells of LIPS, ALE, NOISE");
+        tell(x, 2, "on 0 lips 2 5;on 0 ale 6;on 0 noise 7;");
+        tell(x, 0, "rolls 500 when lips=5 and ale=6 and noise=7;rolls 0;costs 1;blurs 0;");
+        due("2 alone", x.goes(1, 1), 3);
+        due("lips stay", x.of(2, 0), 0);
+        due("ale and noise stay", x.look(4) + x.look(5), 0);
+    }
+
     private static TwisterCourt saidOn(int day) {
         TwisterCourt x = fluent();
         tell(x, 1, "on " + day + " bargain 1 first;on " + day + " bargain 1 second;");
@@ -1064,6 +1104,15 @@ public final class EdgesOfTermsTest extends Checks {
             due("all, " + i + " undone", allOf(x), was[i]);
         }
         due("nothing more", x.undo(), false);
+        sentence("4: UNDO, what TAVERN told on that DAY goes back");
+        TwisterCourt y = fluent();
+        tell(y, 2, "on 0 ale 5;on 0 noise 6;on 0 lips 2 7;on 0 clear 1;");
+        y.act(3, 1);
+        String before = allOf(y);
+        y.days(1);
+        due("all that", y.look(4) * 1000 + y.look(5) * 100 + y.of(2, 0) * 10 + y.deal(1, 6), 5670);
+        y.undo();
+        due("all", allOf(y), before);
     }
 
     /** A call that is told between two things done, and what can be undone behind it. */
@@ -1186,24 +1235,36 @@ public final class EdgesOfTermsTest extends Checks {
         x.rule(0, 2);
         x.rule(1, 0);
         x.image(true);
-        for (int k = 0; k <= 3; k++) {
-            tell(x, k, "");
-        }
+        tell(x, 0, "rolls 1;rolls 2;");
+        tell(x, 1, "on 0 bargain 1 second;");
+        tell(x, 2, "on 0 clear 1;");
+        tell(x, 3, "bargain 1 by 0;");
         x.jump(NONE);
+        x.jump(0);
         x.turn(NONE);
+        x.turn(1);
         x.nine(0, 0);
         x.rule(0, NONE);
+        x.rule(0, 3);
         x.rule(1, NONE);
+        x.rule(1, 1);
         x.image(false);
         for (int k = 0; k <= 3; k++) {
             due("text " + k, x.look(9 + k), 1);
         }
         due("jumps", x.jump(1), 2);
+        due("by one jump", x.jumps(0), 1);
         due("turns", x.turning(0), 1);
         due("even", x.even(3), 3);
         due("steps", x.rule(0, 2), NONE);
+        due("another step", x.rule(0, 3), 2);
         due("bars", x.rule(1, 0), NONE);
+        due("another bar", x.rule(1, 1), 2);
         due("the law works", x.deal(1, 21), 1000);
+        due("hears works", x.deal(0, 8) - x.deal(1, 8), 1);
+        x.days(10);
+        due("tavern works", x.look(4), 1);
+        due("twists work", 10 * x.book(0, 0) + x.book(0, 2), 90);
         sentence("4: THE IMAGE, but the TAPE, fault() and what can be undone (nothing then)");
         x.feed(0x20202020, 0x20202020, 0x20202020, 0x20202020, 0x20202020);
         x.image(true);
