@@ -127,6 +127,7 @@ public final class FaceTest {
             check(fields <= 20, n + " has at most twenty fields");
             for (Method method : n.getDeclaredMethods()) {
                 check(method.getParameterCount() <= 7, method + " takes at most seven");
+                check(!("\n" + FACE).contains("\n" + method.getName() + "("), method + " bears a public name");
             }
         }
     }
